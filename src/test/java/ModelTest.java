@@ -86,7 +86,7 @@ public final class ModelTest {
         }
 
         void go() {
-            // Some runs have few constants or few equations, so that classes stay apart or fall together.
+            // Runs differ in how often they equate, so that in some the classes stay apart and in others fall together.
             int equations = number % 4;
             int calls = 0;
             while (calls < CALLS && wrong == 0) {

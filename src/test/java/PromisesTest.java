@@ -206,6 +206,24 @@ public final class PromisesTest {
         due("leader(4)", x.leader(4), 3);
         due("leader(5)", x.leader(5), 5);
 
+        // What a late node joins may reach back to earlier ones, here two times over: 0 = 1 makes
+        // 10 = 11, hence 2 = 3, hence 8 = 9, hence 4 = 5, hence 6 = 7.
+        x = withConstants(6);
+        due("one(4)", x.one(4), 6);
+        due("one(5)", x.one(5), 7);
+        due("two(2, 0)", x.two(2, 0), 8);
+        due("two(3, 0)", x.two(3, 0), 9);
+        due("two(0, 0)", x.two(0, 0), 10);
+        due("two(0, 1)", x.two(0, 1), 11);
+        due("equate(10, 2)", x.equate(10, 2), 11);
+        due("equate(3, 11)", x.equate(3, 11), 10);
+        due("equate(8, 4)", x.equate(8, 4), 9);
+        due("equate(5, 9)", x.equate(5, 9), 8);
+        due("equate(1, 0)", x.equate(1, 0), 4);
+        due("leader(7)", x.leader(7), 6);
+        due("leader(9)", x.leader(9), 4);
+        due("leader(11)", x.leader(11), 2);
+
         // In a chain of 20, cycles of length 6 and 4 leave a cycle of length 2.
         x = withChain(20);
         due("equate(6, 0)", x.equate(6, 0), 6);
@@ -455,6 +473,14 @@ public final class PromisesTest {
             due("binding(0, " + v + ")", x.binding(0, v), BAD);
             due("binding(9, " + v + ")", x.binding(9, v), BAD);
         }
+
+        // The first and the last match that can be: all variables at node 0, all at node 19.
+        PatternTrees y = withChain(20);
+        pattern(y, 0);
+        for (int k = 0; k < 20; k++) {
+            due("binding(" + k + ", 0) of a variable", y.binding(k, 0), k);
+        }
+        due("binding(20, 0) of a variable", y.binding(20, 0), NONE);
 
         // BAD is tested first.
         pattern(x, 21, 0);
