@@ -474,7 +474,7 @@ public final class PromisesTest {
             due("binding(9, " + v + ")", x.binding(9, v), BAD);
         }
 
-        // The first and the last match that can be: all variables at node 0, all at node 19.
+        // From the first class that there can be to the last: node 0 to node 19.
         PatternTrees y = withChain(20);
         pattern(y, 0);
         for (int k = 0; k < 20; k++) {
