@@ -170,6 +170,19 @@ public final class EdgesTest {
             constants(2) + "equate(0, 1)=1 ".repeat(508) + "leader(1)=0 classes()=1",
             "token(0)=1 wipe()=1 ".repeat(255) + "constant(9)=BAD wipe()=0",
             chain(20) + "[21 21 0 1 2] " + "matches()=0 ".repeat(485) + "clear()=20",
+            // All calls, or all but what they need, may be of one method.
+            "wipe()=0 ".repeat(512),
+            "clear()=0 ".repeat(512),
+            "classes()=0 ".repeat(512),
+            "constant(5)=0 ".repeat(512),
+            "constant(0)=0 " + "one(0)=1 ".repeat(511),
+            "constant(0)=0 " + "two(0, 0)=1 ".repeat(511),
+            "constant(0)=0 " + "equate(0, 0)=1 ".repeat(511),
+            "constant(0)=0 " + "leader(0)=0 ".repeat(511),
+            "constant(0)=0 token(0)=1 " + "matches()=1 ".repeat(510),
+            "constant(0)=0 token(0)=1 " + "matchesAt(0)=1 ".repeat(510),
+            "constant(0)=0 token(0)=1 " + "binding(0, 0)=0 ".repeat(510),
+            "[0 0 0 0 0 0] token(0)=7 " + "token(3)=FULL ".repeat(504),
         };
         sentences++;
         for (String run : runs) {
